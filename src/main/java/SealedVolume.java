@@ -397,14 +397,14 @@ public final class SealedVolume {
     }
 
     /**
-     * Every step can be undone, in the sum and in the word alike, so that a change of one word alone always
-     * changes the sum: no damage goes unseen. It needs no key: damage is looked for in a locked volume too.
+     * Every step can be undone (the factor is odd), in the sum and in the word alike, so that a change of one word
+     * alone always changes the sum: no damage goes unseen. It needs no key, as damage is looked for in a locked
+     * volume too.
      */
     private int sumOf(int[] words, int from) {
         int sum = 0x2545f491;
         for (int i = 0; i < CELLS; i++) {
             sum = (sum ^ words[from + i]) * 0x9e3779b1;
-            sum ^= sum >>> 15;
         }
         return sum;
     }
@@ -457,7 +457,6 @@ public final class SealedVolume {
         }
         for (int sector = 0; sector < SECTORS; sector++) {
             epochs[sector] = 0;
-            versions[sector] = 0;
             for (int cell = 0; cell < CELLS; cell++) {
                 work[cell] = 0;
             }
@@ -536,7 +535,6 @@ public final class SealedVolume {
         for (int slot = 0; slot < SLOTS; slot++) {
             emptySlot(slot);
         }
-        copyTaken = 0;
         for (int i = 0; i < ALL_SLOT_WORDS; i++) {
             copyWords[i] = 0;
         }
@@ -571,13 +569,8 @@ public final class SealedVolume {
 
     private void seedFromPassphrase(int passphrase, int use) {
         seed[4] = passphrase;
-        for (int i = 5; i < 12; i++) {
-            seed[i] = 0;
-        }
         seed[12] = use;
         seed[13] = formats;
-        seed[14] = 0;
-        seed[15] = 0;
     }
 
     private void seedFromKey(int sector, int epoch) {
@@ -587,7 +580,6 @@ public final class SealedVolume {
         seed[12] = sector;
         seed[13] = epoch;
         seed[14] = versions[sector];
-        seed[15] = 0;
     }
 
     /** The block function of ChaCha20 (RFC 8439), a known one: a cipher of one's own is easily a weak one. */
@@ -609,7 +601,7 @@ public final class SealedVolume {
         }
         for (int i = 0; i < BLOCK_WORDS; i++) {
             stream[i] += seed[i];
-            // The seed is a passphrase or the key: it must not outlive its use.
+            // The seed is a passphrase or the key: it must not outlive its use. The next seed counts on the zeros.
             seed[i] = 0;
         }
     }

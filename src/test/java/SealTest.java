@@ -13,11 +13,15 @@ public final class SealTest {
     public static void main(String[] args) throws Exception {
         lockedHoldsNoSecret();
         lockedHoldsNoKey();
+        wrongPassphraseLeavesNothing();
+        removedSlotIsErased();
+        formatErases();
         sameContentsAreKeptOtherwise();
         damageTurnsOneBit();
         crashWritesAsTold();
         renewingWritesAnew();
         cipherIsTheKnownOne();
+        faultsAreFound();
         CHECKS.end();
     }
 
@@ -83,6 +87,40 @@ public final class SealTest {
         }
         v.unlock(PASSPHRASE + 1);
         CHECKS.yes("another passphrase gives the same key", java.util.Arrays.equals(key, array(v, "key")));
+    }
+
+    private static void wrongPassphraseLeavesNothing() throws Exception {
+        SealedVolume v = secretive();
+        v.lock();
+        v.unlock(1);
+        for (int word : array(v, "stream")) {
+            CHECKS.due("what a wrong passphrase gave", word, 0);
+        }
+    }
+
+    private static void removedSlotIsErased() throws Exception {
+        SealedVolume v = secretive();
+        v.addKey(5);
+        int[] before = array(v, "slotWords").clone();
+        v.removeKey(2);
+        int[] after = array(v, "slotWords");
+        for (int i = 0; i < before.length; i++) {
+            CHECKS.due("word " + i + " of the slots", after[i], i / 16 == 2 ? 0 : before[i]);
+        }
+    }
+
+    private static void formatErases() throws Exception {
+        SealedVolume v = secretive();
+        v.renew(3);
+        v.crash(9);
+        int[][] before = {array(v, "kept").clone(), array(v, "slotWords").clone(), array(v, "copyWords").clone()};
+        v.format(PASSPHRASE);
+        List<Integer> after = wordsOf(v);
+        for (int[] words : before) {
+            for (int word : words) {
+                CHECKS.yes("no word of the former volume", word == 0 || !after.contains(word));
+            }
+        }
     }
 
     private static void sameContentsAreKeptOtherwise() throws Exception {
@@ -173,6 +211,24 @@ public final class SealTest {
             CHECKS.due("word " + i + " of the block", stream[i], due[i]);
             CHECKS.due("word " + i + " of the seed afterwards", seed[i], 0);
         }
+    }
+
+    /** No call leads there, so the faults are made by hand: the answer 0 is found, not only said. */
+    private static void faultsAreFound() throws Exception {
+        SealedVolume v = secretive();
+        v.lock();
+        array(v, "key")[0] = 1;
+        CHECKS.due("a key in a locked volume", v.faults(), 1);
+        v = secretive();
+        v.renew(1);
+        array(v, "epochs")[0] = 0;
+        array(v, "epochs")[6] = 1;
+        CHECKS.due("a sector renewed out of turn", v.faults(), 1);
+        v = secretive();
+        Field taken = SealedVolume.class.getDeclaredField("taken");
+        taken.setAccessible(true);
+        taken.setInt(v, 0);
+        CHECKS.due("no slot has a passphrase", v.faults(), 1);
     }
 
     private static int differences(int[] one, int from, int[] other, int otherFrom, int words) {
