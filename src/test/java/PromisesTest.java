@@ -1,4 +1,4 @@
-/** Promise by promise: ordinary inputs, the edges that the document names, and wrong inputs. */
+/** Promise by promise, as a tale of calls: ordinary inputs, edges and wrong inputs one after the other. */
 public final class PromisesTest {
     private static final int MIN = Integer.MIN_VALUE;
     private static final int MAX = Integer.MAX_VALUE;
@@ -35,9 +35,6 @@ public final class PromisesTest {
         crash();
         crashKeepsContents();
         faults();
-        orderOfTests();
-        refusedCallsChangeNothing();
-        questionsChangeNothing();
         CHECKS.end();
     }
 
@@ -710,104 +707,5 @@ public final class PromisesTest {
         due("22: removed", v.faults(), 0);
         v.lock();
         due("22: locked again", v.faults(), 0);
-    }
-
-    /** Calls that more than one test would refuse: the test named first answers. */
-    private static void orderOfTests() {
-        SealedVolume none = new SealedVolume();
-        due("7: BAD before LOCKED", none.write(12, 0, 1), -1);
-        due("7: BAD before LOCKED", none.write(0, 8, 1), -1);
-        due("8: BAD before LOCKED", none.fill(-1, 0, 1), -1);
-        due("9: BAD before LOCKED", none.check(12), -1);
-        due("12: BAD before LOCKED", none.removeKey(4), -1);
-        due("13: BAD before LOCKED", none.changeKey(-1, 0), -1);
-        due("20: BAD before NONE", none.damage(12, 0), -1);
-        SealedVolume locked = locked();
-        due("12: LOCKED before NONE", locked.removeKey(1), -3);
-        due("12: LOCKED before LAST", locked.removeKey(0), -3);
-        due("13: LOCKED before NONE", locked.changeKey(1, 7), -3);
-        due("11: LOCKED before EXISTS", locked.addKey(7), -3);
-        SealedVolume open = open();
-        due("13: NONE before EXISTS", open.changeKey(1, 7), -2);
-        open.renew(1);
-        due("19: NONE before STALE", open.restoreSlots(), -2);
-    }
-
-    private static final int[] ASKED = {7, 8, 9, 10, 0, 1};
-
-    /** Only from questions, and few enough of them that an object can be asked several times. */
-    private static String seen(SealedVolume v) {
-        StringBuilder all = new StringBuilder();
-        all.append(v.state()).append(' ').append(v.slots()).append(' ').append(v.toRenew());
-        all.append(' ').append(v.digest()).append(' ').append(v.faults());
-        for (int sector = 0; sector < 12; sector++) {
-            all.append(' ').append(v.check(sector)).append(' ').append(v.read(sector, 3));
-        }
-        for (int passphrase : ASKED) {
-            all.append(' ').append(v.slotOf(passphrase));
-        }
-        return all.toString();
-    }
-
-    private static SealedVolume rich() {
-        SealedVolume v = open();
-        v.addKey(8);
-        v.addKey(9);
-        v.addKey(10);
-        for (int sector = 0; sector < 12; sector++) {
-            v.fill(sector, 5 * sector + 2, 7);
-        }
-        v.damage(1, 1);
-        v.damage(10, 10);
-        v.saveSlots();
-        v.renew(6);
-        return v;
-    }
-
-    private static void refusedCallsChangeNothing() {
-        SealedVolume v = rich();
-        String before = seen(v);
-        due("refused", v.unlock(7), -5);
-        due("refused", v.write(1, 1, 1), -10);
-        due("refused", v.write(12, 1, 1), -1);
-        due("refused", v.fill(-1, 1, 1), -1);
-        due("refused", v.addKey(7), -6);
-        due("refused", v.addKey(1), -7);
-        due("refused", v.removeKey(4), -1);
-        due("refused", v.changeKey(4, 1), -1);
-        due("refused", v.changeKey(1, 7), -6);
-        due("refused", v.restoreSlots(), -9);
-        due("refused", v.damage(1, 1), -5);
-        due("refused", v.damage(12, 1), -1);
-        CHECKS.yes("refused calls change nothing in an open volume", seen(v).equals(before));
-        v.lock();
-        String locked = seen(v);
-        due("refused", v.unlock(11), -4);
-        due("refused", v.write(0, 0, 1), -3);
-        due("refused", v.fill(0, 1, 1), -3);
-        due("refused", v.addKey(1), -3);
-        due("refused", v.removeKey(1), -3);
-        due("refused", v.changeKey(1, 1), -3);
-        due("refused", v.renew(3), -3);
-        due("refused", v.restoreSlots(), -9);
-        due("refused", v.damage(10, 1), -5);
-        CHECKS.yes("refused calls change nothing in a locked volume", seen(v).equals(locked));
-        v.unlock(7);
-        CHECKS.yes("nor anything that is seen when it is open", seen(v).equals(before));
-    }
-
-    private static void questionsChangeNothing() {
-        SealedVolume v = rich();
-        String before = seen(v);
-        CHECKS.yes("questions change nothing", seen(v).equals(before));
-        for (int i = 0; i < 8; i++) {
-            v.read(i, i);
-            v.slotOf(i);
-        }
-        v.lock();
-        String locked = seen(v);
-        CHECKS.yes("questions change nothing in a locked volume", seen(v).equals(locked));
-        v.unlock(8);
-        CHECKS.yes("questions to a locked volume change nothing that is seen later", seen(v).equals(before));
     }
 }

@@ -5,7 +5,8 @@ public final class RandomRunsTest {
     private static final int RUNS = 3000;
     private static final int CALLS = 380;
     private static final int[] PASSPHRASES = {0, 1, 2, 3, 4, -1, Integer.MIN_VALUE, Integer.MAX_VALUE};
-    private static final int[] EDGES = {0, 1, -1, 7, 8, 9, 11, 12, 13, 31, 32, 287, 288, Integer.MIN_VALUE, Integer.MAX_VALUE};
+    private static final int[] EDGES = {
+        0, 1, -1, 7, 8, 9, 11, 12, 13, 31, 32, 287, 288, Integer.MIN_VALUE, Integer.MAX_VALUE};
 
     private final Checks checks;
     private final Random random;

@@ -20,6 +20,7 @@ public final class SealTest {
         damageTurnsOneBit();
         crashWritesAsTold();
         renewingWritesAnew();
+        renewingGoesInOrder();
         cipherIsTheKnownOne();
         faultsAreFound();
         CHECKS.end();
@@ -142,6 +143,12 @@ public final class SealTest {
     }
 
     private static void damageTurnsOneBit() throws Exception {
+        for (int place : new int[] {Integer.MIN_VALUE, -289, -288, -1, 288, Integer.MAX_VALUE}) {
+            SealedVolume v = secretive();
+            int[] before = array(v, "kept").clone();
+            v.damage(11, place);
+            CHECKS.yes("one bit at " + place, differences(before, 0, array(v, "kept"), 0, before.length) == 1);
+        }
         boolean[] turned = new boolean[9 * 32];
         for (int place = 0; place < turned.length; place++) {
             SealedVolume v = secretive();
@@ -186,6 +193,19 @@ public final class SealTest {
                 stays |= word != 0 && word == other;
             }
             CHECKS.yes("no word stays as it was kept", !stays);
+        }
+    }
+
+    /** One after the other, 0 first: no answer tells which sectors are left, only how many. */
+    private static void renewingGoesInOrder() throws Exception {
+        for (int steps = 0; steps <= 12; steps++) {
+            SealedVolume v = secretive();
+            int[] before = array(v, "kept").clone();
+            v.renew(steps);
+            for (int sector = 0; sector < 12; sector++) {
+                boolean renewed = differences(before, 18 * sector, array(v, "kept"), 18 * sector, 18) > 0;
+                CHECKS.yes("renew(" + steps + ") and sector " + sector, renewed == sector < steps);
+            }
         }
     }
 
