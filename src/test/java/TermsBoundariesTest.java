@@ -381,20 +381,26 @@ public final class TermsBoundariesTest {
         for (Call call : calls()) {
             S.test(0, call.isQuestion() ? "Questions change nothing" : words, call.text(), () -> {
                 for (int i = 0; i < states.size(); i++) {
-                    SealedVolume v = states.get(i).get();
-                    int answer = call.made().applyAsInt(v);
+                    int answer = call.made().applyAsInt(states.get(i).get());
                     if (answer < 0 && !isValue(call)) {
                         refused.add(call.name() + " " + answer);
                     }
                     if (answer < 0 || call.isQuestion()) {
-                        String spared = Volumes.everything(states.get(i).get());
-                        S.yes("nothing changed in state " + i, Volumes.everything(v).equals(spared));
+                        S.yes("nothing changed in state " + i, changesNothing(call, states.get(i), true));
+                        S.yes("nothing changed, unasked, in state " + i, changesNothing(call, states.get(i), false));
                     }
                 }
             });
         }
         S.test(0, words, "every refusal of the document, and no other", () ->
             S.yes("refused: " + refused, refused.equals(new TreeSet<>(List.of(REFUSALS)))));
+    }
+
+    private static boolean changesNothing(Call call, Supplier<SealedVolume> state, boolean askFirst) {
+        SealedVolume called = state.get();
+        call.made().applyAsInt(called);
+        SealedVolume spared = state.get();
+        return Volumes.everything(called, askFirst).equals(Volumes.everything(spared, askFirst));
     }
 
     /** What a cell holds, and a sum over cells, may be below 0 without being a refusal. */

@@ -106,10 +106,13 @@ final class Volumes {
 
     private static final int[] ASKED = {OWN, 8, 9, 10, 0, 100, 101, 102, 103};
 
-    /** As well what shows only when the copy is used, the volume opened and a renewing begun; some 270 calls. */
-    static String everything(SealedVolume v) {
-        StringBuilder seen = new StringBuilder(questions(v));
-        seen.append(" copy ").append(v.restoreSlots()).append(' ').append(v.state()).append(" opened");
+    /**
+     * As well what shows only when the copy is used, the volume opened and a renewing begun; some 270 calls. If no
+     * question is asked before that, one that changes something by being asked shows too.
+     */
+    static String everything(SealedVolume v, boolean askFirst) {
+        StringBuilder seen = new StringBuilder(askFirst ? questions(v) : "");
+        seen.append(" copy ").append(v.restoreSlots()).append(" opened");
         for (int passphrase : ASKED) {
             seen.append(' ').append(v.unlock(passphrase));
         }
