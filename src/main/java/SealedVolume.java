@@ -31,12 +31,17 @@ public final class SealedVolume {
     // Two rows a sector, so that a renewed one never overwrites the one that still holds.
     private static final int KEPT_WORDS = 2 * SECTORS * ROW_WORDS;
 
-    // A slot is kept as the words that tell its passphrase, then the wrapped key.
-    private static final int SLOT_WORDS = BLOCK_WORDS;
+    // A slot is kept as the words that its passphrase is known by, then the wrapped key.
+    private static final int CHECK_WORDS = 8;
+    private static final int SLOT_WORDS = CHECK_WORDS + KEY_WORDS;
     private static final int ALL_SLOT_WORDS = SLOTS * SLOT_WORDS;
 
     private static final int FOR_KEY = 1;
-    private static final int FOR_SLOT = 2;
+    private static final int FOR_CHECK = 2;
+    private static final int FOR_WRAP = 3;
+    // Always the same, so that it could be tried out over all ints (PassphrasesApart, among the tests) that no two of
+    // them have the same check words.
+    private static final int CHECK_SALT = 0;
 
     private final int[] kept = new int[KEPT_WORDS];
     private final int[] epochs = new int[SECTORS];
@@ -70,9 +75,7 @@ public final class SealedVolume {
         makeKey(passphrase);
         eraseSectors();
         eraseSlots();
-        seedFromPassphrase(passphrase, FOR_SLOT);
-        scramble();
-        putSlot(0);
+        putSlot(0, passphrase);
         forgetSecrets();
         return 0;
     }
@@ -89,7 +92,7 @@ public final class SealedVolume {
             forgetSecrets();
             return WRONG;
         }
-        unwrapKey(slot);
+        unwrapKey(slot, passphrase);
         open = true;
         return slot;
     }
@@ -188,7 +191,7 @@ public final class SealedVolume {
         }
         for (int slot = 0; slot < SLOTS; slot++) {
             if (!isTaken(slot)) {
-                putSlot(slot);
+                putSlot(slot, passphrase);
                 return slot;
             }
         }
@@ -229,7 +232,7 @@ public final class SealedVolume {
         if (holder != NO_SLOT) {
             return EXISTS;
         }
-        putSlot(slot);
+        putSlot(slot, passphrase);
         return 1;
     }
 
@@ -242,7 +245,7 @@ public final class SealedVolume {
             return NONE;
         }
         int slot = findSlot(passphrase);
-        // The search has made what would unwrap the key, and a locked volume must not hold that.
+        // The search leaves words made from the passphrase, and a locked volume must not hold any.
         if (!open) {
             forgetSecrets();
         }
@@ -488,39 +491,42 @@ public final class SealedVolume {
 
     // Slots as they are kept.
 
-    /** Leaves in the stream what the passphrase gives, for putSlot and unwrapKey. */
     private int findSlot(int passphrase) {
-        seedFromPassphrase(passphrase, FOR_SLOT);
-        scramble();
+        streamFromPassphrase(passphrase, FOR_CHECK, CHECK_SALT);
         for (int slot = 0; slot < SLOTS; slot++) {
-            if (isTaken(slot) && streamOpens(slot)) {
+            if (isTaken(slot) && streamBelongsTo(slot)) {
                 return slot;
             }
         }
         return NO_SLOT;
     }
 
-    private boolean streamOpens(int slot) {
+    private boolean streamBelongsTo(int slot) {
         int differences = 0;
-        for (int i = 0; i < KEY_WORDS; i++) {
+        for (int i = 0; i < CHECK_WORDS; i++) {
             differences |= slotWords[slot * SLOT_WORDS + i] ^ stream[i];
         }
         return differences == 0;
     }
 
-    private void putSlot(int slot) {
+    private void putSlot(int slot, int passphrase) {
         int from = slot * SLOT_WORDS;
-        for (int i = 0; i < KEY_WORDS; i++) {
+        streamFromPassphrase(passphrase, FOR_CHECK, CHECK_SALT);
+        for (int i = 0; i < CHECK_WORDS; i++) {
             slotWords[from + i] = stream[i];
-            slotWords[from + KEY_WORDS + i] = stream[KEY_WORDS + i] ^ key[i];
+        }
+        streamFromPassphrase(passphrase, FOR_WRAP, formats);
+        for (int i = 0; i < KEY_WORDS; i++) {
+            slotWords[from + CHECK_WORDS + i] = stream[i] ^ key[i];
         }
         taken |= 1 << slot;
     }
 
-    private void unwrapKey(int slot) {
-        int from = slot * SLOT_WORDS + KEY_WORDS;
+    private void unwrapKey(int slot, int passphrase) {
+        int from = slot * SLOT_WORDS + CHECK_WORDS;
+        streamFromPassphrase(passphrase, FOR_WRAP, formats);
         for (int i = 0; i < KEY_WORDS; i++) {
-            key[i] = slotWords[from + i] ^ stream[KEY_WORDS + i];
+            key[i] = slotWords[from + i] ^ stream[i];
         }
     }
 
@@ -560,17 +566,17 @@ public final class SealedVolume {
     }
 
     private void makeKey(int passphrase) {
-        seedFromPassphrase(passphrase, FOR_KEY);
-        scramble();
+        streamFromPassphrase(passphrase, FOR_KEY, formats);
         for (int i = 0; i < KEY_WORDS; i++) {
             key[i] = stream[i];
         }
     }
 
-    private void seedFromPassphrase(int passphrase, int use) {
+    private void streamFromPassphrase(int passphrase, int use, int salt) {
         seed[4] = passphrase;
         seed[12] = use;
-        seed[13] = formats;
+        seed[13] = salt;
+        scramble();
     }
 
     private void seedFromKey(int sector, int epoch) {

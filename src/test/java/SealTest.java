@@ -13,10 +13,11 @@ public final class SealTest {
     public static void main(String[] args) throws Exception {
         lockedHoldsNoSecret();
         lockedHoldsNoKey();
-        wrongPassphraseLeavesNothing();
+        passphrasesAskedForLeaveNothing();
         removedSlotIsErased();
         formatErases();
         sameContentsAreKeptOtherwise();
+        keysAreWrappedOtherwise();
         damageTurnsOneBit();
         crashWritesAsTold();
         renewingWritesAnew();
@@ -73,24 +74,33 @@ public final class SealTest {
     private static void lockedHoldsNoKey() throws Exception {
         SealedVolume v = secretive();
         int[] key = array(v, "key").clone();
-        v.slotOf(PASSPHRASE);
-        int[] stream = array(v, "stream").clone();
+        int[] wrapped = array(v, "slotWords").clone();
         for (int word : key) {
             CHECKS.yes("an open volume has the key", word != 0);
         }
+        v.lock();
+        v.unlock(PASSPHRASE);
         v.lock();
         v.slotOf(PASSPHRASE);
         for (int word : wordsOf(v)) {
             for (int i = 0; i < 8; i++) {
                 CHECKS.yes("no word of the key", word != key[i]);
-                CHECKS.yes("no word of what wraps it", word != stream[8 + i]);
+                CHECKS.yes("no word of what wraps it", word != (wrapped[8 + i] ^ key[i]));
             }
         }
         v.unlock(PASSPHRASE + 1);
         CHECKS.yes("another passphrase gives the same key", java.util.Arrays.equals(key, array(v, "key")));
     }
 
-    private static void wrongPassphraseLeavesNothing() throws Exception {
+    private static void passphrasesAskedForLeaveNothing() throws Exception {
+        for (int passphrase : new int[] {PASSPHRASE, 1}) {
+            SealedVolume v = secretive();
+            v.lock();
+            v.slotOf(passphrase);
+            for (int word : array(v, "stream")) {
+                CHECKS.due("what slotOf(" + passphrase + ") made", word, 0);
+            }
+        }
         SealedVolume v = secretive();
         v.lock();
         v.unlock(1);
@@ -115,7 +125,7 @@ public final class SealTest {
         v.renew(3);
         v.crash(9);
         int[][] before = {array(v, "kept").clone(), array(v, "slotWords").clone(), array(v, "copyWords").clone()};
-        v.format(PASSPHRASE);
+        v.format(PASSPHRASE + 2);
         List<Integer> after = wordsOf(v);
         for (int[] words : before) {
             for (int word : words) {
@@ -140,6 +150,25 @@ public final class SealTest {
         CHECKS.yes("under another passphrase", differences(kept, 0, array(second, "kept"), 0, 8) > 60);
         first.format(1);
         CHECKS.yes("after another format", differences(kept, 0, array(first, "kept"), 0, 8) > 60);
+    }
+
+    /** One pad over the keys of two volumes would show how the keys differ. */
+    private static void keysAreWrappedOtherwise() throws Exception {
+        SealedVolume v = new SealedVolume();
+        v.format(PASSPHRASE);
+        v.unlock(PASSPHRASE);
+        int[] pad = padOfSlot0(v);
+        v.format(PASSPHRASE);
+        v.unlock(PASSPHRASE);
+        CHECKS.yes("another pad after another format", differences(pad, 0, padOfSlot0(v), 0, 8) > 60);
+    }
+
+    private static int[] padOfSlot0(SealedVolume open) throws Exception {
+        int[] pad = array(open, "key").clone();
+        for (int i = 0; i < 8; i++) {
+            pad[i] ^= array(open, "slotWords")[8 + i];
+        }
+        return pad;
     }
 
     private static void damageTurnsOneBit() throws Exception {
